@@ -185,8 +185,13 @@ public final class ExactWires {
     /** Finds a part of the conductance of a wire of the star that answers alike. */
     public long starred(int edge, boolean isLower) throws IndexOutOfBoundsException {
         needEdge(edge);
-        if (Integer.bitCount(network.edges) != 3 || countRest() == 0 || !areAllAnswersAbove0()) {
+        if (Integer.bitCount(network.edges) != 3) {
             return 0;
+        }
+        for (int each = 0; each < MOST_NODES; each++) {
+            if (network.hasEdge(each) && upperOfOppositeAnswer(each) == 0) {
+                return 0;
+            }
         }
         // The sum of the products of two answers is trees by rest (it is a minor of what the edges
         // answer), and an answer is its upper count by rest: so the trees by that count are the same
@@ -220,7 +225,12 @@ public final class ExactWires {
 
     /** Simplifies; returns how many moves were done. */
     public int simplify() {
-        return moves.doAllSimple();
+        int done = 0;
+        // Each of these moves leaves one wire less, so there are fewer of them than wires.
+        while (done < MOST_WIRES && moves.doFirstSimple()) {
+            done++;
+        }
+        return done;
     }
 
     /** Marks the network as it is. */
@@ -296,7 +306,7 @@ public final class ExactWires {
     }
 
     private static boolean isIn(int set, int number) {
-        return (set & setOf(number)) != 0;
+        return (set >> number & 1) != 0;
     }
 
     /** Returns a part of a fraction in lowest terms; the lower part that is given is not below 0. */
@@ -363,15 +373,6 @@ public final class ExactWires {
         }
     }
 
-    private boolean areAllAnswersAbove0() {
-        for (int edge = 0; edge < MOST_NODES; edge++) {
-            if (network.hasEdge(edge) && upperOfOppositeAnswer(edge) == 0) {
-                return false;
-            }
-        }
-        return true;
-    }
-
     /** Of three edges: the upper count of the answer of the two that are not this one. */
     private long upperOfOppositeAnswer(int edge) {
         int one = NONE;
@@ -412,31 +413,27 @@ public final class ExactWires {
         }
 
         boolean hasWire(int wire) {
-            return isWireNumber(wire) && isIn(wiresThere, wire);
+            return wire >= 0 && wire < MOST_WIRES && isIn(wiresThere, wire);
         }
 
         boolean hasRoom(int newNodes, int newWires) {
             return nodesEver + newNodes <= MOST_NODES && wiresEver + newWires <= MOST_WIRES;
         }
 
-        private static boolean isWireNumber(int wire) {
-            return wire >= 0 && wire < MOST_WIRES;
-        }
-
         int firstOf(int wire) {
-            return isWireNumber(wire) ? first[wire] : NONE;
+            return wire >= 0 && wire < MOST_WIRES ? first[wire] : NONE;
         }
 
         int secondOf(int wire) {
-            return isWireNumber(wire) ? second[wire] : NONE;
+            return wire >= 0 && wire < MOST_WIRES ? second[wire] : NONE;
         }
 
         int conductanceOf(int wire) {
-            return isWireNumber(wire) ? conductance[wire] : 0;
+            return wire >= 0 && wire < MOST_WIRES ? conductance[wire] : 0;
         }
 
         void setConductance(int wire, int to) {
-            if (isWireNumber(wire)) {
+            if (wire >= 0 && wire < MOST_WIRES) {
                 conductance[wire] = to;
             }
         }
@@ -465,7 +462,7 @@ public final class ExactWires {
         int wiresAt(int node) {
             int set = 0;
             for (int wire = 0; wire < MOST_WIRES; wire++) {
-                if (hasWire(wire) && isAt(wire, node)) {
+                if (hasWire(wire) && (first[wire] == node || second[wire] == node)) {
                     set |= setOf(wire);
                 }
             }
@@ -475,7 +472,9 @@ public final class ExactWires {
         /** Returns the lowest wire that joins two nodes, but for one that is left out, or NONE. */
         int lowestBetween(int one, int other, int leftOut) {
             for (int wire = 0; wire < MOST_WIRES; wire++) {
-                if (wire != leftOut && hasWire(wire) && isAt(wire, one) && farEndOf(wire, one) == other) {
+                boolean isBetween = first[wire] == one && second[wire] == other
+                        || first[wire] == other && second[wire] == one;
+                if (isBetween && wire != leftOut && hasWire(wire)) {
                     return wire;
                 }
             }
@@ -496,7 +495,7 @@ public final class ExactWires {
         /** Adds a wire where there is room; returns its number. */
         int addWire(int node, int other, int itsConductance) {
             int added = wiresEver;
-            if (!isWireNumber(added)) {
+            if (added < 0 || added >= MOST_WIRES) {
                 return NONE;
             }
             wiresEver++;
@@ -935,15 +934,8 @@ public final class ExactWires {
             return true;
         }
 
-        int doAllSimple() {
-            int done = 0;
-            while (done < MOST_KEPT && doFirstSimple()) {
-                done++;
-            }
-            return done;
-        }
-
-        private boolean doFirstSimple() {
+        /** Does the first move that makes the network simpler; tells whether there was one. */
+        boolean doFirstSimple() {
             for (int kind = LOOP; kind <= SERIES; kind++) {
                 for (int which = 0; which < MOST_WIRES; which++) {
                     boolean isThere = isOfWire(kind) ? network.hasWire(which) : network.hasNode(which);
