@@ -1,73 +1,7 @@
 import java.math.BigInteger;
 
 /** Each promise of the document: ordinary calls, the edges it names, and wrong arguments. */
-public final class PromisesTest {
-    private static final String INDEX = "IndexOutOfBoundsException";
-    private static final String ARGUMENT = "IllegalArgumentException";
-    private static final String STATE = "IllegalStateException";
-    private static final int[] NO_NUMBERS = {-1, 7, 8, 31, 32, 64, Integer.MIN_VALUE, Integer.MAX_VALUE};
-
-    private static int wrong = 0;
-
-    private interface Call {
-        void run();
-    }
-
-    private static void due(String what, long got, long want) {
-        if (got != want) {
-            wrong++;
-            System.out.println(what + " answered " + got + ", due is " + want);
-        }
-    }
-
-    private static void due(String what, boolean got, boolean want) {
-        due(what, got ? 1 : 0, want ? 1 : 0);
-    }
-
-    private static void dueThrow(String what, String want, Call call) {
-        String got = "nothing";
-        try {
-            call.run();
-        } catch (RuntimeException thrown) {
-            got = thrown.getClass().getSimpleName();
-        }
-        if (!got.equals(want)) {
-            wrong++;
-            System.out.println(what + " throws " + got + ", due is " + want);
-        }
-    }
-
-    /** Makes nodes: e for an edge, i for an inner one. */
-    private static ExactWires of(String nodes) {
-        ExactWires x = new ExactWires();
-        for (char kind : nodes.toCharArray()) {
-            x.node(kind == 'e');
-        }
-        return x;
-    }
-
-    /** Makes nodes and wires, each of three numbers. */
-    private static ExactWires of(String nodes, int... wires) {
-        ExactWires x = of(nodes);
-        for (int place = 0; place < wires.length; place += 3) {
-            x.wire(wires[place], wires[place + 1], wires[place + 2]);
-        }
-        return x;
-    }
-
-    private static void dueWire(String what, ExactWires x, int wire, int first, int second, int conductance) {
-        due(what + ": first node of " + wire, x.wireIs(wire, 0), first);
-        due(what + ": second node of " + wire, x.wireIs(wire, 1), second);
-        due(what + ": conductance of " + wire, x.wireIs(wire, 2), conductance);
-    }
-
-    private static void dueAnswer(String what, ExactWires x, int one, int other, long upper, long lower) {
-        due(what + ": answer, upper", x.answer(one, other, false), upper);
-        due(what + ": answer, lower", x.answer(one, other, true), lower);
-        due(what + ": answer back, upper", x.answer(other, one, false), upper);
-        due(what + ": answer back, lower", x.answer(other, one, true), lower);
-    }
-
+public final class PromisesTest extends Due {
     private static void promise1() {
         ExactWires x = new ExactWires();
         due("1 nodes", x.nodes(), 0);
@@ -577,17 +511,11 @@ public final class PromisesTest {
         ExactWires ring = of("ieee", 2, 0, 6, 0, 0, 6, 1, 0, 6);
         dueThrow("20 TRIANGLE with a ring", STATE, () -> ring.move(ExactWires.TRIANGLE, 0));
         ExactWires used = of("ieee", 2, 0, 6, 0, 3, 6, 1, 0, 6);
-        for (int wire = 3; wire < 18; wire++) {
-            used.wire(1, 1, 1);
-            used.move(ExactWires.LOOP, wire);
-        }
+        useUp(used, 1, 18);
         dueThrow("20 TRIANGLE, too many wires ever", STATE, () -> used.move(ExactWires.TRIANGLE, 0));
         due("20 TRIANGLE, too many wires ever: nothing changed", used.wires(), 7);
         ExactWires last = of("ieee", 2, 0, 6, 0, 3, 6, 1, 0, 6);
-        for (int wire = 3; wire < 17; wire++) {
-            last.wire(1, 1, 1);
-            last.move(ExactWires.LOOP, wire);
-        }
+        useUp(last, 1, 17);
         last.move(ExactWires.TRIANGLE, 0);
         due("20 TRIANGLE, the last wires", last.wires(), 0b111 << 17);
     }
@@ -631,10 +559,7 @@ public final class PromisesTest {
         due("20 STAR with six nodes", six.nodes(), 127);
 
         ExactWires used = of("eee", 0, 1, 1, 1, 2, 1, 2, 0, 1);
-        for (int wire = 3; wire < 17; wire++) {
-            used.wire(1, 1, 1);
-            used.move(ExactWires.LOOP, wire);
-        }
+        useUp(used, 1, 17);
         used.move(ExactWires.STAR, 0);
         due("20 STAR, the last wires", used.wires(), 0b111 << 17);
         used.undo();
@@ -841,9 +766,6 @@ public final class PromisesTest {
 
     public static void main(String[] args) {
         all();
-        System.out.println(wrong == 0 ? "all promises hold" : wrong + " answers are not as due");
-        if (wrong != 0) {
-            System.exit(1);
-        }
+        end("all promises hold");
     }
 }
